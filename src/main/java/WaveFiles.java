@@ -669,6 +669,7 @@ public final class WaveFiles {
             return made[slotOf(ALL, component)] ? slotOf(ALL, component) : SLOT_FOR_ALL;
         }
 
+        /** What is beyond the bounds counts as ALL, so that the slot is always one that is there. */
         static int slotOf(int tile, int component) {
             int row = tile >= 0 && tile < MOST_TILES ? tile + 1 : 0;
             int column = component >= 0 && component < MOST_COMPONENTS ? component + 1 : 0;

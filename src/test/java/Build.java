@@ -117,7 +117,7 @@ final class Build {
         return bytes(255, 144).two(10).two(tile).four(length).bytes(number, 0).add(head).bytes(255, 147).bytes(data);
     }
 
-    /** The head of a stream of 2 x 2 tiles with two components, 90 bytes and so far without an end. */
+    /** The head of a stream of 2 x 2 tiles with two components, so far without an end. */
     static Build head() {
         return new Build().begin().sizes(10, 8, 5, 4, 8, 12).style(1, 3, 5, 4, 1).step(8, 2);
     }

@@ -29,7 +29,7 @@ final class Check {
         try {
             got = String.valueOf(made.run());
         } catch (RuntimeException e) {
-            got = e.getClass().getName();
+            got = isThrownByTheClass(e) ? e.getClass().getName() : "by another's throw " + e;
         }
         if (got.equals(want.getName())) {
             right++;
@@ -37,6 +37,12 @@ final class Check {
             wrong++;
             System.out.println(call + " answered " + got + ", due is " + want.getName());
         }
+    }
+
+    /** A list of the library throws IndexOutOfBoundsException too, but the class must have looked before. */
+    static boolean isThrownByTheClass(RuntimeException e) {
+        StackTraceElement[] trace = e.getStackTrace();
+        return trace.length > 0 && trace[0].getClassName().equals("WaveFiles");
     }
 
     static void dueIndex(String call, Call made) {

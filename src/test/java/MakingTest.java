@@ -34,6 +34,7 @@ public final class MakingTest {
         }
         Check.dueNoRoom("the 21st", () -> x.packet(1));
         Check.due("of the other part", x.packet(0), 1);
+        Check.due("a byte of the last of 20", x.byteOf(1, 7), 1);
     }
 
     private static void bytes() {

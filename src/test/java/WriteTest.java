@@ -3,6 +3,7 @@ public final class WriteTest {
     public static void main(String[] args) {
         plainFile();
         fullFile();
+        fourComponents();
         lengthsOfPackets();
         latestFile();
         Check.finish();
@@ -74,6 +75,34 @@ public final class WriteTest {
         Build want = Build.signature().add(Build.fileType()).box("jp2h", header)
                 .box("xml ", new Build()).box("xml ", new Build().bytes(60)).box("jp2c", stream);
         compare("full", x, want);
+    }
+
+    private static void fourComponents() {
+        WaveFiles x = new WaveFiles(9, 9);
+        x.set(2, -1, -1, 4);
+        Build styles = new Build().style(0, 1, 5, 4, 1);
+        Build steps = new Build().step(8, 2);
+        Build stylesOfTile = new Build().style(3, 1, 5, 4, 1);
+        Build stepsOfTile = new Build().step(9, 2);
+        x.set(4, 0, -1, 3);
+        x.set(9, 0, -1, 9);
+        for (int c = 3; c >= 0; c--) {
+            x.set(6, -1, c, c);
+            x.set(9, -1, c, 10 + c);
+            x.set(7, 0, c, 2 + c);
+            x.set(10, 0, c, 3 + c);
+        }
+        for (int c = 0; c < 4; c++) {
+            styles.styleOf(c, c, 4, 1);
+            steps.stepOf(c, 10 + c, 2);
+            stylesOfTile.styleOf(c, 5, 2 + c, 1);
+            stepsOfTile.stepOf(c, 9, 3 + c);
+        }
+        x.tilePart(0);
+        Build stream = new Build().begin().sizes(9, 9, 9, 9, 8, 8, 8, 8).add(styles).add(steps)
+                .part(0, 0, stylesOfTile.add(stepsOfTile)).end();
+        compare("four components", x, Build.signature().add(Build.fileType())
+                .box("jp2h", Build.pictureHeader(9, 9, 4, 8)).box("jp2c", stream));
     }
 
     private static void lengthsOfPackets() {
