@@ -21,7 +21,31 @@ public final class ToldClearTest {
         atFirst(y);
         y.clear();
         atFirst(y);
+        clearedShowsWhatANewOneShows();
         Check.finish();
+    }
+
+    private static void clearedShowsWhatANewOneShows() {
+        String first = Show.all(new WaveFiles(5, 4));
+        WaveFiles x = filled();
+        Check.yes("there is something to clear", !Show.all(filled()).equals(first));
+        x.clear();
+        Check.yes("all is as at first", Show.all(x).equals(first));
+        x.clear();
+        Check.yes("and again", Show.all(x).equals(first));
+        WaveFiles broken = filled();
+        broken.cut(broken.part(0, 1));
+        Check.yes("a broken read", broken.read() < 0);
+        Check.yes("that met boxes", broken.told(6) > 0);
+        broken.clear();
+        Check.yes("all is as at first", Show.all(broken).equals(first));
+        WaveFiles empty = new WaveFiles(5, 4);
+        empty.clear();
+        Check.yes("a new one stays as it is", Show.all(empty).equals(first));
+        WaveFiles wide = new WaveFiles(2001, -1);
+        wide.set(0, -1, -1, 3);
+        wide.clear();
+        Check.yes("the tile's sides stay", Show.all(wide).equals(Show.all(new WaveFiles(2000, 1))));
     }
 
     private static WaveFiles filled() {

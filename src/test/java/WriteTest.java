@@ -6,6 +6,7 @@ public final class WriteTest {
         fourComponents();
         lengthsOfPackets();
         latestFile();
+        greatestDepth();
         Check.finish();
     }
 
@@ -150,5 +151,24 @@ public final class WriteTest {
         Check.due("the new depth", x.byteAt(58), 15);
         x.set(6, 0, 0, 0);
         Check.due("a segment more", x.write(), n + 14 + 11);
+    }
+
+    /** Of the components that are there, and no others; it may stand anywhere among them. */
+    private static void greatestDepth() {
+        for (int components = 1; components <= 4; components++) {
+            for (int greatest = 0; greatest < components; greatest++) {
+                WaveFiles x = new WaveFiles(1, 1);
+                x.set(3, -1, -1, 16);
+                x.set(2, -1, -1, components);
+                for (int c = 0; c < components; c++) {
+                    x.set(3, -1, c, 1);
+                }
+                x.write();
+                Check.due("all depths 1", x.byteAt(58), 0);
+                x.set(3, -1, greatest, 2);
+                x.write();
+                Check.due("one depth 2", x.byteAt(58), 1);
+            }
+        }
     }
 }
