@@ -11,6 +11,7 @@ public final class PartEdgesTest extends Reading {
         lengthsInParts();
         greatLengths();
         packetsOfCutParts();
+        whatsOfParts();
         Check.finish();
     }
 
@@ -200,5 +201,24 @@ public final class PartEdgesTest extends Reading {
                 .partOfLength(500, 0, 0, lengths(1, 1), 7, 8, 9), 1);
         duePart("more than its lengths tell", x, 0, 0, HEAD, 2, 2, 0, 1);
         Check.dueIndex("they are none of its bytes", () -> x.partByte(0, 2));
+    }
+
+    /** Promise 16: "NONE for another what", whatever the part; but there must be one. */
+    private static void whatsOfParts() {
+        WaveFiles x = read("two parts", Build.head().part(0, 0, lengths(1), 5).part(9, 0, NONE), 2);
+        for (int what : new int[] {Integer.MIN_VALUE, -2, -1, 6, 7, Integer.MAX_VALUE}) {
+            Check.due("what " + what, x.part(0, what), -1);
+            Check.due("what " + what + " of a spoilt one", x.part(1, what), -1);
+            for (int k : new int[] {Integer.MIN_VALUE, -1, 2, 300, Integer.MAX_VALUE}) {
+                Check.dueIndex("what " + what + " of part " + k, () -> x.part(k, what));
+            }
+        }
+        for (int i : new int[] {Integer.MIN_VALUE, -1, 1, Integer.MAX_VALUE}) {
+            Check.dueIndex("byte " + i, () -> x.partByte(0, i));
+        }
+        for (int k : new int[] {Integer.MIN_VALUE, -1, 2, 300, Integer.MAX_VALUE}) {
+            Check.dueIndex("byte 0 of part " + k, () -> x.partByte(k, 0));
+        }
+        Check.dueIndex("byte 0 of a spoilt one", () -> x.partByte(1, 0));
     }
 }
