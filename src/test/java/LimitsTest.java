@@ -25,6 +25,7 @@ public final class LimitsTest {
         alterAtItsEdges();
         twentyThousandFed();
         threeHundredPartsRead();
+        unknownBoxesToTheBrim();
         countsThatAreNone();
         Check.finish();
     }
@@ -418,6 +419,34 @@ public final class LimitsTest {
             Check.dueIndex("there are no more", () -> x.part(read, 0));
             Check.dueIndex("nor bytes of them", () -> x.partByte(read, 0));
         }
+    }
+
+    /** Promise 18: no bound is told for UNKNOWN boxes but what can be fed: as many empty ones as have room, and a stream. */
+    private static void unknownBoxesToTheBrim() {
+        WaveFiles x = new WaveFiles(5, 5);
+        for (int box = 0; box < 8; box++) {
+            x.box(false, RES + box);
+        }
+        x.write();
+        int boxes = STREAM - 8;
+        int stream = boxes + 64;
+        x.pass(0, boxes);
+        int many = 0;
+        for (int left = 20000 - boxes - (x.told(3) - stream); left >= 8; left -= 64) {
+            many += x.pass(boxes, Math.min(64, left - left % 8)) / 8;
+        }
+        Check.yes("more than 2400", many > 2400);
+        x.pass(stream, x.told(3));
+        Check.yes("no other has room", x.told(4) > 19992);
+        Check.due("read", x.read(), 0);
+        Check.due("all are met", x.told(6), many);
+        Check.due("the first", x.unknown(0, -1), RES);
+        Check.due("the second", x.unknown(1, -1), RES + 1);
+        Check.due("the last", x.unknown(many - 1, -1), RES + (many - 1) % 8);
+        Check.due("it has no bytes", x.unknown(many - 1, -2), 0);
+        int met = x.told(6);
+        Check.dueIndex("so not one", () -> x.unknown(met - 1, 0));
+        Check.dueIndex("there are no more", () -> x.unknown(met, -1));
     }
 
     /** Promise 19: "0 without such; NONE for another what." */

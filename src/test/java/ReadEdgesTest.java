@@ -18,6 +18,7 @@ public final class ReadEdgesTest extends Reading {
         numbersOfSegments();
         componentsOfSegments();
         sizesAndTheirComponents();
+        sizesThatEndTooSoon();
         tilesOfSizes();
         bytesThatAreNot255();
         codesPassedOver();
@@ -300,6 +301,15 @@ public final class ReadEdgesTest extends Reading {
                         -3);
             }
             read(name + ": number 256 more", new Build().add(sizes).add(rest).alter(40, 1), -3);
+        }
+    }
+
+    /** A 255 81 that is all there, but ends before the numbers that it should have; nothing was fed before it. */
+    private static void sizesThatEndTooSoon() {
+        for (int length = 0; length <= 40; length++) {
+            Build short81 = inner(255, 79, 255, 81, 0, length).bytes(new int[Math.max(0, length - 2)]);
+            read("sizes of length " + length + ", and no more", short81, -3);
+            read("sizes of length " + length + ", and more", short81.style(0, 1, 5, 4, 1).step(8, 2).end(), -3);
         }
     }
 
