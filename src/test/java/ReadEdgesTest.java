@@ -311,6 +311,12 @@ public final class ReadEdgesTest extends Reading {
             read("sizes of length " + length + ", and no more", short81, -3);
             read("sizes of length " + length + ", and more", short81.style(0, 1, 5, 4, 1).step(8, 2).end(), -3);
         }
+        // Wherever the end of all is, nothing behind it may be asked for.
+        for (int before = 0; before <= 300; before++) {
+            Build stream = inner(255, 79, 255, 81, 0, 36).bytes(new int[34]);
+            read("sizes behind " + before + " bytes", Build.signature().box("res ", inner(new int[before]))
+                    .box("jp2c", stream), -1 - 12 - 8 - before - 8 - 2);
+        }
     }
 
     /** "sizes beyond the bounds, the tile's too, 1 .. 65536, or more than 24 TILES". */
