@@ -8,17 +8,40 @@ import java.util.TreeSet;
 
 /** The class has the document's face, and nothing beside it that others could see. */
 public final class FaceTest {
+    private static final String INDEX = " IndexOutOfBoundsException";
+    private static final String STATE = " IllegalStateException";
+    private static final String ARGUMENT = " IllegalArgumentException";
+    private static final String NO_ROOM = " UnsupportedOperationException";
+
+    /** With the exceptions that it names, in the order in which they come first. */
     private static final String[] METHODS = {
-        "int set(int,int,int,int)", "int tilePart(int)", "int packet(int)", "int byteOf(int,int)",
-        "int box(boolean,int)", "int boxByte(int,int)", "int write()", "int byteAt(int)", "int feed(int)",
-        "int pass(int,int)", "int alter(int,int)", "int cut(int)", "int read()", "int at(int,int,int)",
-        "int part(int,int)", "int partByte(int,int)", "int unknown(int,int)", "int told(int)", "void clear()"};
+        "int set(int,int,int,int)" + INDEX + STATE + ARGUMENT,
+        "int tilePart(int)" + INDEX + NO_ROOM,
+        "int packet(int)" + INDEX + NO_ROOM,
+        "int byteOf(int,int)" + INDEX + STATE + ARGUMENT + NO_ROOM,
+        "int box(boolean,int)" + ARGUMENT + NO_ROOM,
+        "int boxByte(int,int)" + INDEX + ARGUMENT + NO_ROOM,
+        "int write()",
+        "int byteAt(int)" + INDEX,
+        "int feed(int)" + ARGUMENT + NO_ROOM,
+        "int pass(int,int)" + INDEX + ARGUMENT + NO_ROOM,
+        "int alter(int,int)" + INDEX + ARGUMENT,
+        "int cut(int)" + ARGUMENT,
+        "int read()",
+        "int at(int,int,int)" + STATE + INDEX,
+        "int part(int,int)" + STATE + INDEX,
+        "int partByte(int,int)" + STATE + INDEX,
+        "int unknown(int,int)" + INDEX,
+        "int told(int)",
+        "void clear()"};
 
     public static void main(String[] args) {
         Set<String> seen = new TreeSet<>();
         for (Method method : WaveFiles.class.getDeclaredMethods()) {
             if (!Modifier.isPrivate(method.getModifiers()) && !method.isSynthetic()) {
                 seen.add(told(method));
+                Check.yes(method.getName() + " is public and of an object", Modifier.isPublic(method.getModifiers())
+                        && !Modifier.isStatic(method.getModifiers()));
             }
         }
         Check.yes("the methods " + seen, seen.equals(new TreeSet<>(Arrays.asList(METHODS))));
@@ -26,9 +49,11 @@ public final class FaceTest {
             boolean isNone = field.getName().equals("NONE") && Modifier.isPublic(field.getModifiers());
             Check.yes("the field " + field.getName(), isNone || Modifier.isPrivate(field.getModifiers()));
         }
-        Constructor<?>[] constructors = WaveFiles.class.getConstructors();
+        Constructor<?>[] constructors = WaveFiles.class.getDeclaredConstructors();
         Check.due("constructors", constructors.length, 1);
-        Check.due("its parameters", constructors[0].getParameterCount(), 2);
+        Check.yes("it is public", Modifier.isPublic(constructors[0].getModifiers()));
+        Check.yes("its parameters", Arrays.equals(constructors[0].getParameterTypes(),
+                new Class<?>[] {int.class, int.class}));
         Check.yes("final and public", Modifier.isFinal(WaveFiles.class.getModifiers())
                 && Modifier.isPublic(WaveFiles.class.getModifiers()));
         Check.due("NONE", WaveFiles.NONE, -1);
@@ -41,6 +66,10 @@ public final class FaceTest {
         for (Class<?> type : method.getParameterTypes()) {
             text.append(text.charAt(text.length() - 1) == '(' ? "" : ",").append(type.getSimpleName());
         }
-        return text.append(')').toString();
+        text.append(')');
+        for (Class<?> thrown : method.getExceptionTypes()) {
+            text.append(' ').append(thrown.getSimpleName());
+        }
+        return text.toString();
     }
 }

@@ -421,7 +421,7 @@ public final class LimitsTest {
         }
     }
 
-    /** Promise 18: no bound is told for UNKNOWN boxes but what can be fed: as many empty ones as have room, and a stream. */
+    /** Promise 18: no bound is told for UNKNOWN boxes but what can be fed: as many empty ones as have room. */
     private static void unknownBoxesToTheBrim() {
         WaveFiles x = new WaveFiles(5, 5);
         for (int box = 0; box < 8; box++) {

@@ -8,6 +8,7 @@ public final class PartEdgesTest extends Reading {
         partsThatEnd();
         tilesAndNumbersOfParts();
         segmentsInParts();
+        codesInParts();
         lengthsInParts();
         greatLengths();
         packetsOfCutParts();
@@ -120,6 +121,27 @@ public final class PartEdgesTest extends Reading {
         duePart("half of it", y, 0, -1, HEAD, 0, 0, 1, 0);
         WaveFiles z = read("14 bytes to the end", Build.head().partOfLength(0, 0, 0, NONE), 1);
         duePart("all of it", z, 0, 0, HEAD, 0, 0, 0, 0);
+    }
+
+    /** "Other codes .. are passed over" in a part's head too, 144 and 217 among them: only 147 ends it. */
+    private static void codesInParts() {
+        for (int code = 0; code <= 255; code++) {
+            boolean isSegment = code == 82 || code == 83 || code == 92 || code == 93;
+            for (int length = 0; length <= 5; length++) {
+                Build head = inner(255, code, 0, length).bytes(new int[Math.max(0, length - 2)]);
+                boolean isFine = code == 88 ? length >= 3 : length >= 2 && !isSegment && code != 147;
+                dueSpoilt(code + " with length " + length, new Build().part(0, 0, head), isFine ? 0 : 1);
+            }
+            dueSpoilt(code + " beyond the part", new Build().part(0, 0, inner(255, code, 0, 5)), 1);
+        }
+        for (int code : new int[] {79, 81, 100, 144, 217}) {
+            Build head = inner(255, code, 0, 4, 255, 147).lengths(1);
+            WaveFiles x = read("147 among the bytes of " + code, Build.head().part(0, 0, head, 9), 1);
+            duePart("is no end of the head", x, 0, 0, HEAD, 1, 1, 0, 0);
+            Check.due("the byte behind it", x.partByte(0, 0), 9);
+            WaveFiles y = read(code + " in a second part", Build.head().part(0, 0, NONE).part(0, 1, head, 8), 2);
+            duePart("is passed over", y, 1, 0, HEAD + 14, 1, 1, 0, 0);
+        }
     }
 
     /** "if its bytes are not as many as its LENGTHS together tell (..)". */

@@ -378,7 +378,10 @@ public final class ReadEdgesTest extends Reading {
 
     /** "Other codes, 81 and 88 too, are passed over (.. below 2 it is BROKEN)." */
     private static void codesPassedOver() {
-        for (int code : new int[] {0, 1, 78, 79, 80, 81, 84, 88, 91, 94, 143, 145, 147, 216, 218, 255}) {
+        for (int code = 0; code <= 255; code++) {
+            if (code == 82 || code == 83 || code == 92 || code == 93 || code == 144 || code == 217) {
+                continue;
+            }
             for (int length = 0; length <= 4; length++) {
                 Build segment = inner(255, code, 0, length).bytes(new int[Math.max(0, length - 2)]);
                 read(code + " with length " + length, Build.head().add(segment).end(), length < 2 ? -1 - HEAD : 0);
